@@ -1066,6 +1066,7 @@ public final class WheelOnWheel {
             return teeth < 1 ? 0 : all / teeth;
         }
 
+        /** BEHIND a tooth; the tooth itself only if nothing was traced. */
         int cuspFrom(int tooth) {
             for (int far = 0; far < teeth; far++) {
                 int t = Numbers.modulo(tooth + far, teeth);
@@ -1073,7 +1074,7 @@ public final class WheelOnWheel {
                     return t;
                 }
             }
-            return NONE;
+            return tooth;
         }
 
         /** How many teeth from a CUSP up to the next one; all, if there is no other. */
@@ -1174,7 +1175,6 @@ public final class WheelOnWheel {
         void begin(Ring ring) {
             for (int i = 0; i < MOST_WHEELS; i++) {
                 at[i] = ring.wheels[i].at;
-                touches[i] = false;
             }
             Arrays.fill(tally, 0);
             found = 0;

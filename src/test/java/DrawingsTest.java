@@ -6,6 +6,7 @@ public final class DrawingsTest {
         pentagram();
         withTail();
         slippedDrawing();
+        unevenDrawings();
         backwardAndDouble();
         oneCusp();
         choosyDrawing();
@@ -80,6 +81,19 @@ public final class DrawingsTest {
         crosses(x, 3, 2, 2, 2, 2, 1);
         x.puts(0, 4);
         drawing(x, 0, 3, 3, 1, 3, 6, 0, 0);
+    }
+
+    private static void unevenDrawings() {
+        // Slips on 0 and 4: 2-4, 4-1, 1-3, 3-5, 5-0, 0-4.
+        WheelOnWheel x = with(7, 2, 2, 2, 2);
+        crosses(x, 2, 1, 1, 3, 0, 1);
+        begins(x, 2, 4, 1, 3, 5, 0);
+        drawing(x, 1, 5, 6, 2, 2, 5, 4, 3);
+        // Slips on 0 and 5: 0-6, 6-2, 2-5, 5-4, 4-0, of 6, 3, 3, 6 and 3 teeth.
+        WheelOnWheel y = with(7, 2, 3, 3, 0);
+        drawing(y, 0, 5, 5, 3, 2, 0, 2, 4);
+        begins(y, 0, 6, 2, 5, 4);
+        crosses(y, 0, 1, 1, 0, 2);
     }
 
     private static void backwardAndDouble() {
@@ -188,6 +202,8 @@ public final class DrawingsTest {
         DUE.is(18, "unlike SIDES turned", x.mirror(3, 0, 1), -9);
         DUE.is(18, "unlike drawings", x.mirror(0, 4, 0), -9);
         DUE.is(18, "unlike drawings turned", x.mirror(4, 0, 1), -9);
+        DUE.is(18, "a drawing told of between", x.drawing(0, 2), 3);
+        DUE.is(18, "as before", x.mirror(0, 1, 0), 1);
     }
 
     private static void mirrorsOfOneCusp() {

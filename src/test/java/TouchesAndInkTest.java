@@ -234,6 +234,10 @@ public final class TouchesAndInkTest {
         DUE.is(25, "what -1", x.inked(-1), -2);
         x.undo();
         inkedIs(x, more);
+        WheelOnWheel y = new WheelOnWheel();
+        y.wheel(0, 1, 0, 23, 1);
+        y.roll(0, 1);
+        inkedIs(y, new int[] {1, 0, 0, 0});
     }
 
     private static void inkedIs(WheelOnWheel x, int[] due) {
