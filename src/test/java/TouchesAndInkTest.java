@@ -8,6 +8,7 @@ public final class TouchesAndInkTest {
         refusedTouches();
         meet();
         meetAtTheLastTick();
+        meetJustTooLate();
         refusedMeets();
         crowd();
         refusedCrowds();
@@ -116,6 +117,26 @@ public final class TouchesAndInkTest {
         x.puts(1, 6);
         DUE.is(22, "tick 240 is too late", x.meet(3, 0), -9);
         DUE.is(22, "no tooth", x.meet(3, 1), -9);
+    }
+
+    /** Two that touch one tooth with their 67th ARCS for the first time. */
+    private static void meetJustTooLate() {
+        WheelOnWheel x = Due.withRing(58);
+        x.wheel(0, 2, 0, 2, 3);
+        x.wheel(2, 3, 8, 45, 3);
+        int one = 2;
+        int other = 45;
+        for (int arc = 1; arc <= 67; arc++) {
+            one = x.next(0, one);
+            other = x.next(1, other);
+            DUE.is(22, "alike behind " + arc, one == other ? 1 : 0, arc == 67 ? 1 : 0);
+        }
+        DUE.is(22, "tick 201 is too late", x.meet(3, 0), -9);
+        DUE.is(22, "no tooth", x.meet(3, 1), -9);
+        x.change(0, 3, 2);
+        x.change(1, 3, 2);
+        DUE.is(22, "at PACE 2", x.meet(3, 0), 134);
+        DUE.is(22, "their tooth", x.meet(3, 1), 20);
     }
 
     private static void refusedMeets() {
