@@ -43,14 +43,8 @@ public final class DrawingsTest {
         DUE.is(15, "crosses behind the last", x.crosses(0, due.length), -9);
     }
 
-    private static WheelOnWheel with(int teeth, int kind, int size, int figure, int tooth) {
-        WheelOnWheel x = Due.withRing(teeth);
-        x.wheel(kind, size, figure, tooth, 1);
-        return x;
-    }
-
     private static void pentagram() {
-        WheelOnWheel x = with(5, 0, 2, 0, 1);
+        WheelOnWheel x = Due.with(5, 0, 2, 0, 1);
         drawing(x, 0, 5, 5, 2, 1, 0, 5, 0);
         begins(x, 1, 3, 0, 2, 4);
         crosses(x, 2, 2, 2, 2, 2);
@@ -60,7 +54,7 @@ public final class DrawingsTest {
 
     private static void withTail() {
         // Slips on 0 and 4: 0 to 3, 4 to 0; 5 to 6 to 0 to 3 to 4 to 0.
-        WheelOnWheel x = with(7, 2, 1, 2, 5);
+        WheelOnWheel x = Due.with(7, 2, 1, 2, 5);
         drawing(x, 2, 3, 5, 1, 3, 0, 0, 0);
         begins(x, 5, 6, 0, 3, 4);
         crosses(x, 0, 0, 0, 0, 0);
@@ -71,7 +65,7 @@ public final class DrawingsTest {
 
     private static void slippedDrawing() {
         // Slips on 0, 3 and 6: 0-3, 1-3, 2-4, 3-6, 4-6, 5-0, 6-2.
-        WheelOnWheel x = with(7, 2, 2, 1, 1);
+        WheelOnWheel x = Due.with(7, 2, 2, 1, 1);
         drawing(x, 2, 3, 5, 1, 2, 4, 3, 0);
         begins(x, 1, 3, 6, 2, 4);
         crosses(x, 2, 1, 1, 2, 0);
@@ -85,34 +79,34 @@ public final class DrawingsTest {
 
     private static void unevenDrawings() {
         // Slips on 0 and 4: 2-4, 4-1, 1-3, 3-5, 5-0, 0-4.
-        WheelOnWheel x = with(7, 2, 2, 2, 2);
+        WheelOnWheel x = Due.with(7, 2, 2, 2, 2);
         crosses(x, 2, 1, 1, 3, 0, 1);
         begins(x, 2, 4, 1, 3, 5, 0);
         drawing(x, 1, 5, 6, 2, 2, 5, 4, 3);
         // Slips on 0 and 5: 0-6, 6-2, 2-5, 5-4, 4-0, of 6, 3, 3, 6 and 3 teeth.
-        WheelOnWheel y = with(7, 2, 3, 3, 0);
+        WheelOnWheel y = Due.with(7, 2, 3, 3, 0);
         drawing(y, 0, 5, 5, 3, 2, 0, 2, 4);
         begins(y, 0, 6, 2, 5, 4);
         crosses(y, 0, 1, 1, 0, 2);
     }
 
     private static void backwardAndDouble() {
-        WheelOnWheel x = with(8, 3, 3, 0, 0);
+        WheelOnWheel x = Due.with(8, 3, 3, 0, 0);
         // 0, 5, 2, 7, 4, 1, 6, 3: eight arcs of three teeth each.
         drawing(x, 0, 8, 8, 3, 1, 0, 16, 0);
         begins(x, 0, 5, 2, 7, 4, 1, 6, 3);
         crosses(x, 4, 4, 4, 4, 4, 4, 4, 4);
-        WheelOnWheel y = with(9, 5, 4, 0, 2);
+        WheelOnWheel y = Due.with(9, 5, 4, 0, 2);
         // Eight less is one more on nine teeth, but it goes eight.
         drawing(y, 0, 9, 9, 8, 1, 0, 0, 0);
         begins(y, 2, 3, 4, 5, 6, 7, 8, 0, 1);
-        WheelOnWheel z = with(12, 1, 4, 0, 3);
+        WheelOnWheel z = Due.with(12, 1, 4, 0, 3);
         drawing(z, 0, 3, 3, 1, 4, 3, 0, 0);
         begins(z, 3, 7, 11);
     }
 
     private static void oneCusp() {
-        WheelOnWheel x = with(24, 5, 12, 0, 7);
+        WheelOnWheel x = Due.with(24, 5, 12, 0, 7);
         drawing(x, 0, 1, 1, 0, 24, 7, 0, 0);
         begins(x, 7);
         crosses(x, 0);
@@ -121,7 +115,7 @@ public final class DrawingsTest {
     }
 
     private static void choosyDrawing() {
-        WheelOnWheel x = with(8, 4, 3, 0, 0);
+        WheelOnWheel x = Due.with(8, 4, 3, 0, 0);
         begins(x, 0, 3, 6, 1, 4, 7, 2, 5);
         x.wears(3);
         x.wears(4);
@@ -136,7 +130,7 @@ public final class DrawingsTest {
     }
 
     private static void refusedDrawings() {
-        WheelOnWheel x = with(5, 0, 2, 0, 1);
+        WheelOnWheel x = Due.with(5, 0, 2, 0, 1);
         DUE.is(13, "what 8", x.drawing(0, 8), -2);
         DUE.is(13, "what -1", x.drawing(0, -1), -2);
         DUE.is(13, "WHEEL 1 ahead of what", x.drawing(1, 8), -1);
@@ -152,7 +146,7 @@ public final class DrawingsTest {
     }
 
     private static void behind() {
-        WheelOnWheel x = with(24, 0, 9, 0, 1);
+        WheelOnWheel x = Due.with(24, 0, 9, 0, 1);
         // CUSPS: 1, 4, 7, .. 22.
         DUE.is(16, "behind(0, 0)", x.behind(0, 0), 1);
         DUE.is(16, "behind(0, 1)", x.behind(0, 1), 1);
@@ -164,7 +158,7 @@ public final class DrawingsTest {
     }
 
     private static void between() {
-        WheelOnWheel x = with(5, 0, 2, 0, 1);
+        WheelOnWheel x = Due.with(5, 0, 2, 0, 1);
         x.wheel(4, 1, 0, 0, 1);
         x.wheel(1, 2, 0, 0, 1);
         x.wheel(3, 2, 0, 0, 1);
@@ -175,7 +169,7 @@ public final class DrawingsTest {
         DUE.is(17, "the same teeth the other way", x.between(2, 3), 10);
         DUE.is(17, "WHEEL 4", x.between(0, 4), -1);
         DUE.is(17, "WHEEL -1", x.between(-1, 0), -1);
-        WheelOnWheel y = with(12, 0, 4, 0, 0);
+        WheelOnWheel y = Due.with(12, 0, 4, 0, 0);
         y.wheel(2, 4, 0, 1, 1);
         y.wheel(0, 6, 0, 2, 1);
         DUE.is(17, "two triangles", y.between(0, 1), 6);
@@ -185,7 +179,7 @@ public final class DrawingsTest {
     }
 
     private static void mirrorsOfTriangles() {
-        WheelOnWheel x = with(24, 0, 8, 0, 0);
+        WheelOnWheel x = Due.with(24, 0, 8, 0, 0);
         x.wheel(0, 8, 0, 1, 1);
         x.wheel(2, 16, 0, 9, 1);
         x.wheel(1, 8, 0, 0, 1);
@@ -207,7 +201,7 @@ public final class DrawingsTest {
     }
 
     private static void mirrorsOfOneCusp() {
-        WheelOnWheel x = with(24, 5, 12, 0, 5);
+        WheelOnWheel x = Due.with(24, 5, 12, 0, 5);
         x.wheel(5, 12, 0, 7, 1);
         DUE.is(18, "mirror(0, 1, 0)", x.mirror(0, 1, 0), 12);
         DUE.is(18, "mirror(1, 0, 0)", x.mirror(1, 0, 0), 12);
@@ -216,7 +210,7 @@ public final class DrawingsTest {
     }
 
     private static void mirrorsOfSlipped() {
-        WheelOnWheel x = with(7, 2, 2, 1, 4);
+        WheelOnWheel x = Due.with(7, 2, 2, 1, 4);
         // 4-6-2: three arcs of 2, 2 and 3 teeth; from 5 there are six arcs; of INNER 2 seven.
         x.wheel(2, 2, 1, 5, 1);
         x.wheel(0, 2, 0, 0, 1);
@@ -230,7 +224,7 @@ public final class DrawingsTest {
     }
 
     private static void refusedMirrors() {
-        WheelOnWheel x = with(5, 0, 2, 0, 1);
+        WheelOnWheel x = Due.with(5, 0, 2, 0, 1);
         DUE.is(18, "what 2", x.mirror(0, 0, 2), -2);
         DUE.is(18, "what -1", x.mirror(0, 0, -1), -2);
         DUE.is(18, "other ahead of what", x.mirror(0, 1, 2), -1);
@@ -243,11 +237,11 @@ public final class DrawingsTest {
         for (int i = 0; i < teeth.length; i++) {
             DUE.is(19, "full() of " + teeth[i], Due.withRing(teeth[i]).full(), due[i]);
         }
-        DUE.is(19, "whatever WHEELS there are", with(7, 5, 3, 2, 4).full(), 6);
+        DUE.is(19, "whatever WHEELS there are", Due.with(7, 5, 3, 2, 4).full(), 6);
     }
 
     private static void odds() {
-        WheelOnWheel x = with(24, 0, 9, 0, 1);
+        WheelOnWheel x = Due.with(24, 0, 9, 0, 1);
         x.wheel(0, 5, 0, 0, 1);
         DUE.is(20, "odds(0, 0)", x.odds(0, 0), 1);
         DUE.is(20, "odds(0, 1)", x.odds(0, 1), 3);
@@ -256,7 +250,7 @@ public final class DrawingsTest {
         DUE.is(20, "part 2", x.odds(0, 2), Due.refusal(-2));
         DUE.is(20, "part -1", x.odds(0, -1), Due.refusal(-2));
         DUE.is(20, "WHEEL 2 ahead of part", x.odds(2, 2), Due.refusal(-1));
-        WheelOnWheel y = with(7, 2, 1, 2, 5);
+        WheelOnWheel y = Due.with(7, 2, 1, 2, 5);
         DUE.is(20, "five of seven", y.odds(0, 0), 5);
         DUE.is(20, "five of seven, below", y.odds(0, 1), 7);
     }

@@ -57,4 +57,11 @@ final class Due {
         x.ring(teeth);
         return x;
     }
+
+    /** A ring with one WHEEL of PACE 1. */
+    static WheelOnWheel with(int teeth, int kind, int size, int figure, int tooth) {
+        WheelOnWheel x = withRing(teeth);
+        x.wheel(kind, size, figure, tooth, 1);
+        return x;
+    }
 }
