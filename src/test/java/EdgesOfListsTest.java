@@ -307,6 +307,7 @@ public final class EdgesOfListsTest {
         WheelOnWheel x = Due.with(24, 0, 6, 0, 2);
         Due.list(x, 0, numbers);
         DUE.is(30, "place", x.judge(0, 0), due);
+        DUE.is(39, "JUDGED is no REFUSAL", x.count(11) + x.count(12) + x.count(13) + x.count(14) + x.count(16), 0);
     }
 
     /** "the first place (from 0) that is otherwise" */
@@ -317,7 +318,7 @@ public final class EdgesOfListsTest {
         judged(3, 2, 8, 14, 21);
     }
 
-    /** A number may be otherwise by being less, or no tooth. */
+    /** A number may be otherwise by being less, or no tooth, which is no REFUSAL here. */
     private static void judgedLessOrMore() {
         judged(0, 1, 8);
         judged(2, 2, 8, 13);

@@ -209,7 +209,7 @@ public final class EdgesOfTouchesTest {
             new int[] {5, 12, 3, 1}), 31, 1, 9);
     }
 
-    /** "-9 (n 0)" */
+    /** "-9 (n 0)": the tooth alone; how many and ALONE are 0. */
     private static void crowdOf0() {
         crowd(with(24, new int[] {0, 1, 0, 1}), 1, 0, -9, 0, 0);
         crowd(withSix(), 63, 0, -9, 0, 0);

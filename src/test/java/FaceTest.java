@@ -5,8 +5,12 @@ import java.lang.reflect.Method;
 import java.lang.reflect.Modifier;
 import java.nio.file.Files;
 import java.nio.file.Path;
+import java.util.ArrayList;
 import java.util.Arrays;
+import java.util.List;
+import java.util.Map;
 import java.util.Set;
+import java.util.TreeMap;
 import java.util.TreeSet;
 import java.util.regex.Matcher;
 import java.util.regex.Pattern;
@@ -15,6 +19,7 @@ import java.util.stream.Collectors;
 /** The document's face, and those rules of LANGUAGE.md that can be read from the class or its text. */
 public final class FaceTest {
     private static final Due DUE = new Due("FaceTest");
+    private static final String DOCUMENT = "../shared/DOC.md";
     private static final String SOURCE = "src/main/java/WheelOnWheel.java";
     private static final String FACE = """
         int letter(int) int sheet() int ring(int) int wheel(int,int,int,int,int) int of(int,int) int change(int,int,int)
@@ -29,6 +34,7 @@ public final class FaceTest {
 
     public static void main(String[] args) throws IOException {
         face();
+        faceAsTheDocumentTellsIt();
         classesInside();
         String text = withoutCommentsAndTexts(Files.readString(Path.of(SOURCE)));
         words(text);
@@ -72,6 +78,34 @@ public final class FaceTest {
         for (Field field : WheelOnWheel.class.getDeclaredFields()) {
             DUE.holds(field + " is private", Modifier.isPrivate(field.getModifiers()));
         }
+    }
+
+    /** Each call's head to the letter, in the document's order, each part under the line that the interface says ahead. */
+    private static void faceAsTheDocumentTellsIt() throws IOException {
+        String document = Files.readString(Path.of(DOCUMENT));
+        Map<String, String> ahead = new TreeMap<>();
+        Matcher parts = Pattern.compile("Ahead of the calls `(\\w+)`.* the interface says: (---- .*)\\.").matcher(document);
+        while (parts.find()) {
+            ahead.put(parts.group(1), parts.group(2));
+        }
+        DUE.is(0, "parts of the face", ahead.size(), 5);
+        List<String> due = new ArrayList<>();
+        Matcher calls = Pattern.compile("(?m)^    (public (?:int |long )?(\\w+)\\(.*\\));$").matcher(document);
+        while (calls.find()) {
+            if (ahead.containsKey(calls.group(2))) {
+                due.add("// " + ahead.get(calls.group(2)));
+            }
+            due.add(calls.group(1));
+        }
+        DUE.is(0, "lines of the face", due.size(), 1 + 5 + 38);
+        List<String> got = new ArrayList<>();
+        Pattern line = Pattern.compile("(?m)^    (// ---- .*|public .*(?= \\{$))");
+        Matcher lines = line.matcher(Files.readString(Path.of(SOURCE)));
+        while (lines.find()) {
+            got.add(lines.group(1));
+        }
+        DUE.holds("the face as the document tells it: " + got, got.size() >= due.size() && got.subList(0, due.size()).equals(due));
+        DUE.holds("no call behind it", got.stream().skip(due.size()).noneMatch(head -> head.startsWith("public")));
     }
 
     private static Set<Class<?>> allClasses() {
